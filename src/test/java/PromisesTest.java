@@ -107,6 +107,13 @@ public final class PromisesTest {
         for (int g : FAR_OUT) {
             due("2: add(" + g + ")", x.add(g), BAD_ARG);
         }
+        // Their six lowest digits are a rearrangement's, but the number is no code.
+        for (int high : new int[] {1, 2, 6, 46000}) {
+            int g = TURN_OF_SIX + 46656 * high;
+            due("2: add(" + g + ")", x.add(g), BAD_ARG);
+        }
+        due("2: add of a code below 0", x.add(TURN_OF_SIX - 46656), BAD_ARG);
+        due("2: add of a code with its sign turned", x.add(-TURN_OF_SIX), BAD_ARG);
         due("2: first", x.add(TURN_OF_SIX), 1);
         due("2: the same again", x.add(TURN_OF_SIX), 2);
         due("2: the identity", x.add(IDENTITY), 3);
