@@ -55,9 +55,10 @@ public final class ColourKinds {
             return NONE;
         }
         generatorCount--;
+        int last = generators[generatorCount];
         closeGroup();
         gatherKinds();
-        return generators[generatorCount];
+        return last;
     }
 
     public int colours(int n) {
@@ -123,10 +124,8 @@ public final class ColourKinds {
     }
 
     public int size(int colouring) {
-        if (!isColouring(colouring)) {
-            return NONE;
-        }
-        return kindSize[kindName[colouring]];
+        int name = name(colouring);
+        return isColouring(name) ? kindSize[name] : NONE;
     }
 
     public boolean alike(int colouring, int other) {
@@ -181,6 +180,10 @@ public final class ColourKinds {
     // Colourings and rearrangements are both numbers of six digits, lowest place first:
     // colourings to the base c, rearrangements to the base 6.
     private static int digit(int number, int base, int place) {
+        // One colour leaves only the digit 0, and what is less than that is no divisor.
+        if (base <= 1) {
+            return 0;
+        }
         int rest = number;
         for (int i = 0; i < place; i++) {
             rest /= base;
@@ -284,7 +287,7 @@ public final class ColourKinds {
         kindSize[least] = 0;
         for (int e = 0; e < groupOrder; e++) {
             int made = rearranged(least, group[e]);
-            if (kindName[made] == NONE) {
+            if (isColouring(made) && kindName[made] == NONE) {
                 kindName[made] = least;
                 kindSize[least]++;
             }
@@ -334,7 +337,7 @@ public final class ColourKinds {
             return true;
         }
         int other = exchanged(name);
-        return kindName[other] == name;
+        return isColouring(other) && kindName[other] == name;
     }
 
     private int exchanged(int colouring) {
